@@ -1439,16 +1439,18 @@ public final class CurveShelf {
             Point other = null;
             long least = Long.MAX_VALUE;
             for (int i = 1; i < row.many; i++) {
+                Point p = row.points[i];
                 for (int j = 0; j < i; j++) {
-                    Point p = row.points[i];
                     Point q = row.points[j];
-                    long far = between(byWay, p, q);
-                    if (far > least) {
+                    // One axis alone tells of most pairs that they are too far apart.
+                    long dx = Math.abs(p.x - q.x);
+                    if ((byWay == 2 ? dx * dx : dx) > least) {
                         continue;
                     }
+                    long far = between(byWay, p, q);
                     Point lesser = p.name < q.name ? p : q;
                     Point greater = p.name < q.name ? q : p;
-                    if (far < least || comesFirst(lesser, greater, one, other)) {
+                    if (far < least || far == least && comesFirst(lesser, greater, one, other)) {
                         least = far;
                         one = lesser;
                         other = greater;
