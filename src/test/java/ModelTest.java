@@ -22,6 +22,7 @@ public final class ModelTest {
 
     private void play() {
         int calls = 0;
+        due("image 1", real.image(1), model.image(1));
         for (; calls < 5; calls++) {
             goodCurve();
         }
@@ -72,7 +73,8 @@ public final class ModelTest {
     }
 
     private void curve(int kind, int d, int a, int b, int c) {
-        due("curve " + kind + " " + d + " " + a + " " + b + " " + c, real.curve(kind, d, a, b, c), model.curve(kind, d, a, b, c));
+        String call = "curve " + kind + " " + d + " " + a + " " + b + " " + c;
+        due(call, real.curve(kind, d, a, b, c), model.curve(kind, d, a, b, c));
     }
 
     private void sow(int s, int n) {
@@ -360,6 +362,9 @@ public final class ModelTest {
             due("back " + place, real.back(place), model.back(place));
             told();
             wholeShelves();
+            if (draw.nextBoolean()) {
+                goodCurve();
+            }
         }
     }
 

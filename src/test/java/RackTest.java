@@ -10,6 +10,8 @@ public final class RackTest {
         laidAsItWas();
         image();
         backBringsAll();
+        backBringsOtherCurves();
+        backOfFullRows();
         backLeavesOutAndImages();
         Due.end();
     }
@@ -160,6 +162,58 @@ public final class RackTest {
             Due.is("undo", x.undo(0), left);
         }
         Due.is("undone", x.count(0, 0), 11);
+    }
+
+    /** Two images have another curve each under the same number. */
+    private static void backBringsOtherCurves() {
+        CurveShelf x = new CurveShelf();
+        x.image(0);
+        Due.is("one with 4 places", x.curve(1, 2, 1, 0, 0), 0);
+        x.shelf(0, 0);
+        x.image(1);
+        x.back(0);
+        Due.is("no curve", x.size(0), 0);
+        Due.is("no shelf", x.count(0, 0), -1);
+        Due.is("one with 9", x.curve(3, 2, 1, 0, 0), 0);
+        x.shelf(0, 0);
+        x.image(0);
+        x.back(1);
+        Due.is("the first one again", x.size(0), 4);
+        Due.is("on its shelf, too", x.put(0, 1, 2, 2, 0, 0), -2);
+        x.back(0);
+        Due.is("the other one again", x.size(0), 9);
+        Due.is("on its shelf, too", x.put(0, 1, 2, 2, 0, 0), 0);
+        for (int i = 1; i < 8; i++) {
+            x.curve(1, 2, i, 0, 0);
+        }
+        x.image(1);
+        x.back(1);
+        Due.is("all eight", x.size(7), 1L << 14);
+        Due.is("no ninth", x.curve(1, 2, 1, 0, 0), -1);
+    }
+
+    private static void backOfFullRows() {
+        CurveShelf x = new CurveShelf();
+        x.curve(0, 2, 8, 4, 0);
+        x.shelf(0, 0);
+        for (int i = 0; i < 7; i++) {
+            x.sow(0, 40, i);
+        }
+        x.sow(0, 20, 7);
+        x.high(199, 2, 0);
+        Due.is("200 spans", x.spans(0), 200);
+        Due.is("300 found", x.within(0, 0, 0, 0, 0, 1000), 300);
+        long last = x.found(299, 0);
+        x.image(0);
+        x.few(1);
+        x.nearest(0, 0, 0, 0, 0, 1);
+        x.back(0);
+        Due.is("the last span", x.span(199, 1), 199 * 16 + 2);
+        Due.is("the last found", x.found(299, 0), last);
+        Due.is("few of 200", x.few(199), 199);
+        Due.is("the first two are one", x.span(0, 1), 16 + 2);
+        Due.is("the last is still told", x.span(198, 1), 199 * 16 + 2);
+        Due.is("no more", x.span(199, 0), -1);
     }
 
     private static void backLeavesOutAndImages() {

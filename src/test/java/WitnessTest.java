@@ -6,6 +6,7 @@ public final class WitnessTest {
     public static void main(String[] args) {
         witness();
         witnessOfGreatDistances();
+        witnessOfManyPages();
         witnessRefused();
         out();
         forge();
@@ -66,6 +67,32 @@ public final class WitnessTest {
             Due.is("byte " + i, x.out(i), want[i]);
         }
         Due.is("it holds", x.check(2, 0, 0, 0, 2, 1), -1);
+    }
+
+    /** Thin pages between full ones: there can be many more pages than a shelf of 300 filled in a row has. */
+    private static void witnessOfManyPages() {
+        CurveShelf x = new CurveShelf();
+        x.curve(0, 2, 4, 5, 0);
+        x.shelf(0, 0);
+        for (int i = 0; i < 280; i++) {
+            x.put(0, i, i / 32, i % 32, 0, 1);
+        }
+        for (int k = 1; k < 20; k += 2) {
+            for (int i = 0; i < 7; i++) {
+                x.drop(0, 9 * k + i);
+            }
+        }
+        for (int i = 280; i < 370; i++) {
+            x.put(0, i, i / 32, i % 32, 0, 1);
+        }
+        Due.is("300 points", x.count(0, 0), 300);
+        int pages = x.count(0, 1);
+        Due.is("some forty pages", pages >= 40, true);
+        Due.is("nine bytes for each", x.witness(0, 11, 17, 0, 2, 20), 9 * pages);
+        Due.is("the last one is read", x.out(9 * pages - 9), 1);
+        Due.is("it holds", x.check(0, 11, 17, 0, 2, 20), -1);
+        x.forge(9 * pages - 1, -1);
+        Due.is("the last one is false", x.check(0, 11, 17, 0, 2, 20), pages - 1);
     }
 
     private static void witnessRefused() {
