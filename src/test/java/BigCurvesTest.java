@@ -52,7 +52,10 @@ public final class BigCurvesTest {
             }
         }
         for (long n : new long[] {0, 1, curve.size() / 2, curve.size() - 1}) {
-            Due.is("the number of its place", real.number(0, real.place(0, n, 0), real.place(0, n, 1), real.place(0, n, 2)), n);
+            int x = real.place(0, n, 0);
+            int y = real.place(0, n, 1);
+            int z = real.place(0, n, 2);
+            Due.is("the number of its place", real.number(0, x, y, z), n);
         }
         Due.is("no place", real.place(0, curve.size(), 0), -1);
         Due.is("size", real.size(0), curve.size());

@@ -21,22 +21,6 @@ public final class FindsTest {
         Due.end();
     }
 
-    private static CurveShelf rows() {
-        CurveShelf x = new CurveShelf();
-        x.curve(0, 2, 4, 4, 0);
-        x.shelf(0, 0);
-        return x;
-    }
-
-    /** Points 0 .. n - 1, point i at number i with weight i; beyond 17 the pages are 9, 9, .. */
-    private static CurveShelf filled(int n) {
-        CurveShelf x = rows();
-        for (int i = 0; i < n; i++) {
-            x.put(0, i, i / 16, i % 16, 0, i);
-        }
-        return x;
-    }
-
     private static void told(CurveShelf x, int reads, long... names) {
         Due.is("found", x.spent(0), names.length);
         Due.is("pages read", x.spent(2), reads);
@@ -47,7 +31,7 @@ public final class FindsTest {
     }
 
     private static void points() {
-        CurveShelf x = rows();
+        CurveShelf x = RowsShelf.empty();
         x.put(0, 5, 2, 2, 0, 10);
         x.put(0, 3, 2, 3, 0, 20);
         x.put(0, 9, 3, 3, 0, 40);
@@ -73,7 +57,7 @@ public final class FindsTest {
 
     private static void pointsReadPages() {
         // Pages 0 .. 8, 9 .. 17, 18 .. 26, 27 .. 35 and so on.
-        CurveShelf x = filled(60);
+        CurveShelf x = RowsShelf.filled(60);
         Due.is("pages", x.count(0, 1), 6);
         x.low(1, 0, 0);
         x.high(1, 1, 0);
@@ -89,7 +73,7 @@ public final class FindsTest {
     }
 
     private static void pointsReadWithoutFinding() {
-        CurveShelf x = rows();
+        CurveShelf x = RowsShelf.empty();
         x.put(0, 1, 0, 5, 0, 1);
         x.put(0, 2, 4, 5, 0, 1);
         x.low(2, 7, 0);
@@ -110,7 +94,7 @@ public final class FindsTest {
     }
 
     private static CurveShelf star() {
-        CurveShelf x = rows();
+        CurveShelf x = RowsShelf.empty();
         x.put(0, 1, 8, 8, 0, 1);
         x.put(0, 2, 11, 12, 0, 2);
         x.put(0, 3, 8, 14, 0, 4);
@@ -143,7 +127,7 @@ public final class FindsTest {
 
     private static void nearestReads() {
         // Pages 0 .. 8 (0, 0 .. 8), 9 .. 17 (0 .. 1, 0 .. 15), 18 .. 26 (1, 2 .. 10), 27 .. 35 (1 .. 2, 0 .. 15) ..
-        CurveShelf x = filled(60);
+        CurveShelf x = RowsShelf.filled(60);
         Due.is("itself", x.nearest(0, 0, 4, 0, 0, 1), 1);
         // Page 1's box holds (0, 4), too: its distance is 0, as the nearest's is.
         told(x, 2, 4);
@@ -158,7 +142,7 @@ public final class FindsTest {
     }
 
     private static void nearestTies() {
-        CurveShelf x = rows();
+        CurveShelf x = RowsShelf.empty();
         x.put(0, 9, 4, 3, 0, 1);
         x.put(0, 2, 5, 4, 0, 1);
         x.put(0, 5, 3, 4, 0, 1);
@@ -170,10 +154,10 @@ public final class FindsTest {
     }
 
     private static void nearestOfFew() {
-        CurveShelf x = rows();
+        CurveShelf x = RowsShelf.empty();
         Due.is("of none", x.nearest(0, 4, 4, 0, 2, 3), 0);
         told(x, 0);
-        CurveShelf y = filled(60);
+        CurveShelf y = RowsShelf.filled(60);
         Due.is("20", y.nearest(0, 0, 0, 0, 0, 20), 20);
         y.shelf(1, 0);
         y.put(1, 5, 0, 0, 0, 5);
@@ -214,7 +198,7 @@ public final class FindsTest {
         Due.is("just the box", x.within(0, 0, 7, 0, 1, 2), 1);
         told(x, 1, 4);
         Due.is("all", x.within(0, 0, 0, 0, 2, Integer.MAX_VALUE), 4);
-        CurveShelf y = filled(200);
+        CurveShelf y = RowsShelf.filled(200);
         Due.is("more than twenty", y.within(0, 0, 0, 0, 0, 1000), 200);
         Due.is("all pages", y.spent(2), y.count(0, 1));
         Due.is("the last", y.found(199, 1), 11 + 15);
@@ -253,7 +237,7 @@ public final class FindsTest {
         Due.is("way -1", x.pairs(0, -1), -1);
         told(x, 1, 2, 3);
         // Like ones: the least lesser name, then the least other one.
-        CurveShelf y = rows();
+        CurveShelf y = RowsShelf.empty();
         y.put(0, 8, 0, 0, 0, 1);
         y.put(0, 5, 0, 1, 0, 1);
         y.put(0, 9, 0, 2, 0, 1);
@@ -269,13 +253,13 @@ public final class FindsTest {
         y.pairs(0, 1);
         told(y, 1, 7, 300);
         Due.is("one place for two", y.found(0, 1), 0);
-        CurveShelf many = filled(60);
+        CurveShelf many = RowsShelf.filled(60);
         Due.is("many", many.pairs(0, 2), 2);
         told(many, 6, 0, 1);
     }
 
     private static void pairsOfFew() {
-        CurveShelf x = rows();
+        CurveShelf x = RowsShelf.empty();
         x.put(0, 4, 1, 1, 0, 5);
         x.nearest(0, 0, 0, 0, 0, 1);
         Due.is("of one", x.pairs(0, 0), 0);

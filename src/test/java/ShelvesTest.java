@@ -24,22 +24,6 @@ public final class ShelvesTest {
         Due.end();
     }
 
-    private static CurveShelf rows() {
-        CurveShelf x = new CurveShelf();
-        x.curve(0, 2, 4, 4, 0);
-        x.shelf(0, 0);
-        return x;
-    }
-
-    /** Points 0 .. n - 1 in order, point i at number i. */
-    private static CurveShelf filled(int n) {
-        CurveShelf x = rows();
-        for (int i = 0; i < n; i++) {
-            x.put(0, i, i / 16, i % 16, 0, i);
-        }
-        return x;
-    }
-
     private static void pages(CurveShelf x, int... sizes) {
         Due.is("pages", x.count(0, 1), sizes.length);
         for (int k = 0; k < sizes.length; k++) {
@@ -73,7 +57,7 @@ public final class ShelvesTest {
     }
 
     private static void put() {
-        CurveShelf x = rows();
+        CurveShelf x = RowsShelf.empty();
         Due.is("the first", x.put(0, 5, 1, 1, 0, 7), 0);
         Due.is("ahead of it", x.put(0, 9, 0, 15, 0, 0), 0);
         Due.is("a like number, a lesser name", x.put(0, 4, 1, 1, 0, 1000), 0);
@@ -87,7 +71,7 @@ public final class ShelvesTest {
     }
 
     private static void putRefused() {
-        CurveShelf x = rows();
+        CurveShelf x = RowsShelf.empty();
         x.put(0, 1, 1, 1, 0, 1);
         Due.is("no shelf", x.put(1, 1, 1, 1, 0, 1), -1);
         Due.is("shelf -1", x.put(-1, 1, 1, 1, 0, 1), -1);
@@ -108,7 +92,7 @@ public final class ShelvesTest {
     }
 
     private static void pagesPart() {
-        CurveShelf x = filled(16);
+        CurveShelf x = RowsShelf.filled(16);
         pages(x, 16);
         Due.is("the 17th is in the new page", x.put(0, 16, 1, 0, 0, 0), 1);
         pages(x, 9, 8);
@@ -119,16 +103,16 @@ public final class ShelvesTest {
         pages(x, 10, 8);
         Due.is("right behind the second's first", x.put(0, 101, 0, 9, 0, 0), 1);
         pages(x, 10, 9);
-        CurveShelf y = filled(16);
+        CurveShelf y = RowsShelf.filled(16);
         Due.is("the 17th at the head", y.put(0, 99, 0, 0, 0, 0), 0);
         pages(y, 9, 8);
-        CurveShelf low = filled(16);
+        CurveShelf low = RowsShelf.filled(16);
         Due.is("it becomes the ninth", low.put(0, 99, 0, 7, 0, 0), 0);
         Due.is("in order", low.find(0, 99), 8);
-        CurveShelf high = filled(16);
+        CurveShelf high = RowsShelf.filled(16);
         Due.is("it becomes the tenth", high.put(0, 99, 0, 8, 0, 0), 1);
         Due.is("in order", high.find(0, 99), 9);
-        CurveShelf three = filled(25);
+        CurveShelf three = RowsShelf.filled(25);
         pages(three, 9, 16);
         Due.is("the second page parts", three.put(0, 25, 1, 9, 0, 0), 2);
         pages(three, 9, 9, 8);
@@ -137,7 +121,7 @@ public final class ShelvesTest {
 
     /** 17 points from number 1 on. */
     private static CurveShelf rowsFrom(int n) {
-        CurveShelf x = rows();
+        CurveShelf x = RowsShelf.empty();
         for (int i = 1; i <= n; i++) {
             x.put(0, i, i / 16, i % 16, 0, 0);
         }
@@ -145,7 +129,7 @@ public final class ShelvesTest {
     }
 
     private static void fullShelf() {
-        CurveShelf x = rows();
+        CurveShelf x = RowsShelf.empty();
         for (int i = 0; i < 7; i++) {
             x.sow(0, 40, i);
         }
@@ -163,7 +147,7 @@ public final class ShelvesTest {
     }
 
     private static void drop() {
-        CurveShelf x = filled(3);
+        CurveShelf x = RowsShelf.filled(3);
         Due.is("no shelf", x.drop(1, 0), -1);
         Due.is("shelf -1", x.drop(-1, 0), -1);
         Due.is("no name", x.drop(0, 3), -1);
@@ -181,7 +165,7 @@ public final class ShelvesTest {
 
     private static void pagesMelt() {
         // 9 and 8: from the second page six go, and 9 + 2 is above 10; the seventh makes them melt.
-        CurveShelf x = filled(17);
+        CurveShelf x = RowsShelf.filled(17);
         for (int i = 16; i > 10; i--) {
             x.drop(0, i);
         }
@@ -189,7 +173,7 @@ public final class ShelvesTest {
         Due.is("drop", x.drop(0, 9), 10);
         pages(x, 10);
         // Likewise from the first page.
-        CurveShelf y = filled(17);
+        CurveShelf y = RowsShelf.filled(17);
         for (int i = 0; i < 6; i++) {
             y.drop(0, i);
         }
@@ -201,7 +185,7 @@ public final class ShelvesTest {
 
     private static void meltBehindFirst() {
         // 9, 9, 8 become 8, 3, 8; one less in the middle and both neighbours would do: that behind it melts.
-        CurveShelf x = filled(26);
+        CurveShelf x = RowsShelf.filled(26);
         x.drop(0, 0);
         for (int i = 9; i < 15; i++) {
             x.drop(0, i);
@@ -210,7 +194,7 @@ public final class ShelvesTest {
         x.drop(0, 15);
         pages(x, 8, 10);
         // 9, 9, 8 become 8, 3, 9: the one behind would be too many, the one ahead does.
-        CurveShelf y = filled(27);
+        CurveShelf y = RowsShelf.filled(27);
         pages(y, 9, 9, 9);
         y.drop(0, 0);
         for (int i = 9; i < 15; i++) {
@@ -223,7 +207,7 @@ public final class ShelvesTest {
 
     private static void emptyPageGoes() {
         // 16 and 16 with a page of one between them.
-        CurveShelf x = filled(26);
+        CurveShelf x = RowsShelf.filled(26);
         for (int i = 0; i < 7; i++) {
             x.put(0, 100 + i, 0, 0, 0, 0);
             x.put(0, 200 + i, 15, 15, 0, 0);
@@ -238,7 +222,7 @@ public final class ShelvesTest {
     }
 
     private static void move() {
-        CurveShelf x = filled(17);
+        CurveShelf x = RowsShelf.filled(17);
         Due.is("no shelf", x.move(2, 0, 1, 1, 0), -1);
         Due.is("no name", x.move(0, 17, 1, 1, 0), -1);
         Due.is("no name is told first", x.move(0, 17, 16, 1, 0), -1);
@@ -254,16 +238,16 @@ public final class ShelvesTest {
         Due.is("one act", x.undo(0), 5);
         Due.is("it is back", x.find(0, 3), 3);
         // It goes first: the page of 16 that it leaves does not part when it comes again.
-        CurveShelf full = filled(16);
+        CurveShelf full = RowsShelf.filled(16);
         Due.is("on a full page", full.move(0, 0, 15, 0, 0), 0);
         pages(full, 16);
-        CurveShelf alone = filled(1);
+        CurveShelf alone = RowsShelf.filled(1);
         Due.is("the only one", alone.move(0, 0, 3, 3, 0), 0);
         pages(alone, 1);
         Due.is("to where it is", alone.move(0, 0, 3, 3, 0), 0);
         Due.is("is an act, too", alone.count(0, 4), 3);
         // 9 and 2: one goes from the second, they melt, and it comes to the one page.
-        CurveShelf melt = filled(17);
+        CurveShelf melt = RowsShelf.filled(17);
         for (int i = 16; i > 10; i--) {
             melt.drop(0, i);
         }
@@ -272,7 +256,7 @@ public final class ShelvesTest {
     }
 
     private static void sow() {
-        CurveShelf x = rows();
+        CurveShelf x = RowsShelf.empty();
         x.put(0, 1, 0, 0, 0, 0);
         Due.is("two come", x.sow(0, 2, 1), 3);
         // From 1: 1103527590, 2524885223, 662824084, 3295386429 as wholes; >>> 8, then % 16 and % 101.
@@ -313,7 +297,7 @@ public final class ShelvesTest {
     }
 
     private static void sowRefused() {
-        CurveShelf x = rows();
+        CurveShelf x = RowsShelf.empty();
         Due.is("no shelf", x.sow(1, 1, 1), -1);
         Due.is("no shelf is told first", x.sow(1, 0, 1), -1);
         Due.is("n 0", x.sow(0, 0, 1), -2);
@@ -331,7 +315,7 @@ public final class ShelvesTest {
     }
 
     private static void findAndAt() {
-        CurveShelf x = rows();
+        CurveShelf x = RowsShelf.empty();
         x.put(0, 7, 9, 3, 0, 11);
         x.put(0, 3, 2, 5, 0, 12);
         Due.is("find", x.find(0, 7), 1);
@@ -353,7 +337,7 @@ public final class ShelvesTest {
     }
 
     private static void countAndPage() {
-        CurveShelf x = filled(17);
+        CurveShelf x = RowsShelf.filled(17);
         int[] counts = {17, 2, 136, 0, 6};
         for (int what = 0; what < 5; what++) {
             Due.is("count " + what, x.count(0, what), counts[what]);
@@ -387,7 +371,7 @@ public final class ShelvesTest {
     }
 
     private static void undo() {
-        CurveShelf x = rows();
+        CurveShelf x = RowsShelf.empty();
         Due.is("nothing to take back", x.undo(0), -1);
         Due.is("no shelf", x.undo(1), -1);
         Due.is("shelf -1", x.undo(-1), -1);
@@ -425,7 +409,7 @@ public final class ShelvesTest {
     }
 
     private static void undoBringsPagesBack() {
-        CurveShelf x = filled(17);
+        CurveShelf x = RowsShelf.filled(17);
         for (int i = 16; i > 10; i--) {
             x.drop(0, i);
         }
@@ -435,7 +419,7 @@ public final class ShelvesTest {
         pages(x, 9, 2);
         x.undo(0);
         pages(x, 9, 3);
-        CurveShelf y = filled(17);
+        CurveShelf y = RowsShelf.filled(17);
         y.undo(0);
         pages(y, 16);
         Due.is("and again", y.put(0, 16, 1, 0, 0, 0), 1);

@@ -157,15 +157,14 @@ public final class WindowTest {
     }
 
     private static void fewKeepsTheFirst() {
-        // MIXED, x 2 bits, y 5: window x 0 .. 3, y 1 .. 8 has 1, 3 .. 7, 9, 11 .. 15, 17 ..
         CurveShelf x = new CurveShelf();
         x.curve(1, 2, 2, 0, 0);
         x.high(2, 3, 0);
-        // x 0..2 of 4: numbers 0..7, 8, 9, 12, 13
+        // WOVEN of 4 by 4 without x 3: the numbers 0 .. 9, 12, 13.
         Due.is("spans", x.spans(0), 2);
         told(x, 0, 9, 12, 13);
         x.low(0, 1, 0);
-        // without y 0: 1, 3, 4..7, 9, 12, 13
+        // Without y 0, too: 1, 3 .. 7, 9, 12, 13.
         Due.is("spans", x.spans(0), 4);
         told(x, 1, 1, 3, 7, 9, 9, 12, 13);
         Due.is("three: the first of two gaps of one", x.few(3), 3);

@@ -18,16 +18,6 @@ public final class WitnessTest {
         Due.end();
     }
 
-    private static CurveShelf filled() {
-        CurveShelf x = new CurveShelf();
-        x.curve(0, 2, 4, 4, 0);
-        x.shelf(0, 0);
-        for (int i = 0; i < 60; i++) {
-            x.put(0, i, i / 16, i % 16, 0, 1);
-        }
-        return x;
-    }
-
     private static void bytes(CurveShelf x, int... marksAndFar) {
         for (int k = 0; k < marksAndFar.length / 2; k++) {
             Due.is("mark of page " + k, x.out(9 * k), marksAndFar[2 * k]);
@@ -40,7 +30,7 @@ public final class WitnessTest {
     }
 
     private static void witness() {
-        CurveShelf x = filled();
+        CurveShelf x = RowsShelf.filled(60);
         // Boxes: (0, 0..8), (0..1, 0..15), (1, 2..10), (1..2, 0..15), (2, 4..12), (2..3, 0..15).
         Due.is("six pages", x.witness(0, 0, 4, 0, 2, 1), 54);
         bytes(x, 1, 0, 1, 0, 0, 1, 0, 1, 0, 4, 0, 4);
@@ -96,7 +86,7 @@ public final class WitnessTest {
     }
 
     private static void witnessRefused() {
-        CurveShelf x = filled();
+        CurveShelf x = RowsShelf.filled(60);
         x.witness(0, 0, 4, 0, 2, 1);
         Due.is("no shelf", x.witness(1, 0, 4, 0, 2, 1), -1);
         Due.is("no place", x.witness(0, 0, 16, 0, 2, 1), -1);
@@ -110,7 +100,7 @@ public final class WitnessTest {
     }
 
     private static void out() {
-        CurveShelf x = filled();
+        CurveShelf x = RowsShelf.filled(60);
         Due.is("empty at first", x.out(0), -1);
         x.witness(0, 0, 4, 0, 2, 1);
         Due.is("the first", x.out(0), 1);
@@ -121,7 +111,7 @@ public final class WitnessTest {
     }
 
     private static void forge() {
-        CurveShelf x = filled();
+        CurveShelf x = RowsShelf.filled(60);
         Due.is("nothing to forge", x.forge(0, 1), -1);
         x.witness(0, 0, 4, 0, 2, 1);
         Due.is("what it was", x.forge(53, 255), 4);
@@ -135,7 +125,7 @@ public final class WitnessTest {
     }
 
     private static void check() {
-        CurveShelf x = filled();
+        CurveShelf x = RowsShelf.filled(60);
         for (int way = 0; way < 3; way++) {
             for (int n = 1; n <= 20; n++) {
                 x.witness(0, 7, 4, 0, way, n);
@@ -156,7 +146,7 @@ public final class WitnessTest {
     }
 
     private static void checkFindsFalseBytes() {
-        CurveShelf x = filled();
+        CurveShelf x = RowsShelf.filled(60);
         x.witness(0, 0, 4, 0, 2, 3);
         x.forge(9 * 4, 2);
         Due.is("neither 0 nor 1", x.check(0, 0, 4, 0, 2, 3), 4);
@@ -171,7 +161,7 @@ public final class WitnessTest {
     }
 
     private static void checkFindsMissedPages() {
-        CurveShelf x = filled();
+        CurveShelf x = RowsShelf.filled(60);
         x.witness(0, 0, 4, 0, 2, 3);
         x.forge(9 * 2, 0);
         Due.is("a page as far as the third", x.check(0, 0, 4, 0, 2, 3), 2);
@@ -210,7 +200,7 @@ public final class WitnessTest {
     }
 
     private static void checkRefused() {
-        CurveShelf x = filled();
+        CurveShelf x = RowsShelf.filled(60);
         Due.is("OUT is empty", x.check(0, 0, 4, 0, 2, 3), -2);
         x.witness(0, 0, 4, 0, 2, 3);
         Due.is("no shelf", x.check(1, 0, 4, 0, 2, 3), -2);
