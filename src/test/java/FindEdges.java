@@ -181,6 +181,9 @@ final class FindEdges {
             .run("pairs 0 2 = 2", "found 0 0 = 2", "found 1 0 = 4", "drop 0 4 = 4", "pairs 0 2 = 2", "found 1 0 = 6",
                 "put 0 1 15 14 0 1", "put 0 3 15 15 0 1", "pairs 0 2 = 2", "found 0 0 = 1", "found 1 0 = 3",
                 "put 0 9999 15 15 0 1", "pairs 0 2 = 2", "found 0 0 = 3", "found 1 0 = 9999", "found 1 1 = 0")
+            .in(World.ONE.and("put 0 1 0 0 0 1", "put 0 2 0 5 0 1", "put 0 3 10 0 0 1", "put 0 4 13 0 0 1"))
+            .run("pairs 0 0 = 2", "found 0 0 = 3", "found 1 0 = 4", "found 0 1 = 3", "pairs 0 1 = 2", "found 0 0 = 3",
+                "found 0 1 = 3", "pairs 0 2 = 2", "found 0 0 = 3", "found 0 1 = 9")
             .in(World.FULL).run("pairs 3 2 = 2", "found 0 0 = 0", "found 1 0 = 9999", "found 0 1 = 8")
             .in(FAR.and("put 1 5 0 0 0 1")).run("pairs 1 2 = 2", "found 0 0 = 5", "found 0 1 = 3298528591875");
         Edge.of("Promise 27", "0 if there are fewer than two (none are FOUND then)")

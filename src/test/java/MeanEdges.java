@@ -23,6 +23,9 @@ final class MeanEdges {
                 "mean 4 64 64 1 0 = 64", "mean 4 64 64 1 1 = 4096", "mean 0 16 16 16 1 = 1", "mean 0 16 16 15 1 = 32")
             .taken("mean 4 4 2 1 0 = 12", "mean 4 4 2 1 1 = 24", "mean 4 4 1 2 0 = 12", "mean 4 4 1 2 1 = 12",
                 "mean 4 4 2 3 0 = 6", "mean 4 4 2 3 1 = 12", "mean 4 4 3 2 0 = 6", "mean 4 4 3 2 1 = 18")
+            // The curve leaves the square and comes again.
+            .taken("mean 2 4 2 2 1 = 17", "mean 2 4 4 4 1 = 3", "mean 2 5 3 2 1 = 33", "mean 7 3 2 2 1 = 8",
+                "mean 7 3 3 3 1 = 3", "mean 7 3 2 1 1 = 9", "mean 7 3 1 2 1 = 9")
             .taken("mean 2 9 9 9 1 = 1", "mean 2 3 1 3 1 = 3", "mean 2 3 3 1 1 = 7", "mean 7 4 2 2 1 = 14")
             .refused("mean 4 0 1 1 0 = -1", "mean 4 65 1 1 0 = -1", "mean 4 -1 1 1 0 = -1", "mean 4 MIN 1 1 0 = -1",
                 "mean 4 MAX 1 1 0 = -1", "mean 1 1 1 1 0 = -1", "mean 3 1 1 1 0 = -1");
@@ -31,7 +34,8 @@ final class MeanEdges {
     private static void lowestTerms() {
         Edge.of("Terms V", "MEAN is the quotient, in its lowest terms.").in(SQUARES)
             .taken("mean 4 4 2 3 2 = 2", "mean 4 4 2 3 3 = 1", "mean 7 4 2 2 2 = 14", "mean 7 4 2 2 3 = 9",
-                "mean 2 3 3 1 2 = 7", "mean 2 3 3 1 3 = 3", "mean 4 1 1 1 2 = 1", "mean 4 1 1 1 3 = 1",
+                "mean 2 3 3 1 2 = 7", "mean 2 3 3 1 3 = 3", "mean 2 5 3 2 2 = 11",
+                "mean 2 5 3 2 3 = 4", "mean 4 1 1 1 2 = 1", "mean 4 1 1 1 3 = 1",
                 "mean 4 64 64 1 2 = 64", "mean 4 64 64 1 3 = 1", "mean 4 64 1 64 2 = 1", "mean 4 64 1 64 3 = 1");
     }
 

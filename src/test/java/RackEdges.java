@@ -116,7 +116,11 @@ final class RackEdges {
             .run("witness 1 0 0 0 0 1 = 18", "back 1 = 1", "out 17 = 2", "out 18 = -1")
             .in(World.BARE.and("image 0 = 1"))
             .run("curve 0 2 4 4 0 = 0", "shelf 0 0 = 1", "put 0 0 0 0 0 0 = 0", "back 0 = 1", "size 0 = 0", "count 0 0 = -1",
-                "curve 3 2 1 0 0 = 0", "size 0 = 9", "back 0 = 1", "size 0 = 0");
+                "curve 3 2 1 0 0 = 0", "size 0 = 9", "back 0 = 1", "size 0 = 0")
+            // Another curve under the same number, and the first one again.
+            .run("curve 1 2 1 0 0 = 0", "shelf 0 0 = 1", "image 1 = 1", "back 0 = 1", "curve 3 2 1 0 0 = 0", "shelf 0 0 = 1",
+                "put 0 1 2 2 0 0 = 0", "size 0 = 9", "back 1 = 1", "size 0 = 4", "put 0 1 2 2 0 0 = -2",
+                "put 0 1 1 1 0 0 = 0");
         Edge.of("Promise 39", "false if there is none.")
             .refused("back 1 = 0", "back -1 = 0", "back 2 = 0", "back MIN = 0", "back MAX = 0")
             .in(World.BARE).refused("back 0 = 0", "back 1 = 0")

@@ -307,6 +307,8 @@ final class ShelfEdges {
             .run("drop 0 3 = 25", "sow 0 2 9 = 27", "find 0 3 = 25", "find 0 26 = 26", "find 0 27 = -1")
             .in(World.ONE.and("put 0 0 0 0 0 0", "put 0 9999 0 0 0 0", "put 0 2 0 0 0 0"))
             .run("sow 0 2 9 = 5", "find 0 1 = 3", "find 0 3 = 4", "find 0 4 = -1")
+            .in(World.ONE.and("put 0 299 0 0 0 0", "put 0 300 0 0 0 0", "put 0 301 0 0 0 0", "put 0 302 0 0 0 0"))
+            .run("sow 0 2 9 = 6", "find 0 0 = 4", "find 0 1 = 5")
             .in(World.FULL.and("drop 0 299", "drop 0 0", "put 0 9999 0 0 0 0"))
             .run("find 0 0 = -1", "sow 0 1 1 = 300", "find 0 299 = -1", "drop 0 9999 = 299", "sow 0 1 1 = 300",
                 "drop 0 0 = 299", "drop 0 299 = 298");

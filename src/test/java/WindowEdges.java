@@ -96,6 +96,11 @@ final class WindowEdges {
             .run("few 2 = 2", "span 0 1 = 9", "span 1 0 = 12", "span 1 1 = 13", "span 2 0 = -1")
             .run("few 1 = 1", "span 0 0 = 1", "span 0 1 = 13", "span 1 0 = -1")
             .run("few 3 = 3", "few 1 = 1", "few 2 = 1")
+            // x from 1, y up to 2: the numbers 2 and 3, 6, 8 .. 12, 14; the least gaps come later.
+            .in(World.BARE.and("curve 1 2 2 0 0 = 0").and(window("1 0 0", "3 2 0")).and("spans 0 = 4"))
+            .run("few 3 = 3", "span 0 1 = 3", "span 1 0 = 6", "span 1 1 = 12", "span 2 0 = 14")
+            .run("few 2 = 2", "span 0 1 = 3", "span 1 0 = 6", "span 1 1 = 14", "beyond = 2")
+            .run("few 3 = 3", "few 2 = 2", "span 1 1 = 14", "few 1 = 1", "span 0 0 = 2", "span 0 1 = 14")
             .in(World.RICH.and("spans 0 = 3"))
             .run("few 2 = 2", "span 0 0 = 1", "span 0 1 = 19", "span 1 0 = 33", "span 1 1 = 35")
             .in(World.FULL)

@@ -40,7 +40,8 @@ final class WitnessEdges {
             .in(World.RICH.and("shelf 0 0", "put 0 5 0 0 0 0 = 0"))
             .run(outs("witness 0 15 15 0 2 1 = 9", 0, 1, 0, 0, 0, 0, 0, 0, 1, 450 - 256, -1))
             .in(World.FULL.and("put 1 7 1048575 1048575 1048575 9 = 0"))
-            .run(outs("witness 1 0 0 0 2 1 = 9", 0, FAR_BYTES));
+            .run(outs("witness 1 0 0 0 2 1 = 9", 0, FAR_BYTES))
+            .run("witness 1 0 0 0 2 1 = 9", "check 1 0 0 0 2 1 = -1", "check 1 0 0 1 2 1 = 0");
     }
 
     private static void falseBytes() {
@@ -124,7 +125,10 @@ final class WitnessEdges {
         Edge.of("Promise 35", "CHECK of OUT, as a WITNESS: NONE, or a PAGE.").in(TRUE)
             .taken("check 0 0 4 0 2 3 = -1", "check 0 0 4 0 2 1 = -1", "check 0 0 4 0 2 20 = -1", "check 0 0 9 0 2 3 = 0",
                 "check 0 2 4 0 2 3 = 0")
-            .in(World.RICH).taken("check 0 0 4 0 2 3 = 0");
+            .in(World.RICH).taken("check 0 0 4 0 2 3 = 0")
+            // What a longer OUT had is not looked at.
+            .run("forge 26 9 = 1", "forge 18 2 = 1", "witness 1 0 0 0 0 1 = 18", "check 1 0 0 0 0 1 = -1")
+            .run("out 18 = 1", "drop 1 5 = 19", "witness 1 0 0 0 0 1 = 18", "check 1 0 0 0 0 1 = -1");
         Edge.of("Promise 35", "-2 if nearest() would be refused so, or OUT has not nine bytes for each PAGE.").in(TRUE)
             .refused(FindEdges.badPlaces("check", "1", "-2"))
             .refused("check 2 0 4 0 2 3 = -2", "check -1 0 4 0 2 3 = -2", "check 4 0 4 0 2 3 = -2", "check 0 0 4 0 -1 3 = -2",
