@@ -185,6 +185,12 @@ final class FindEdges {
             .run("pairs 0 0 = 2", "found 0 0 = 3", "found 1 0 = 4", "found 0 1 = 3", "pairs 0 1 = 2", "found 0 0 = 3",
                 "found 0 1 = 3", "pairs 0 2 = 2", "found 0 0 = 3", "found 0 1 = 9")
             .in(World.FULL).run("pairs 3 2 = 2", "found 0 0 = 0", "found 1 0 = 9999", "found 0 1 = 8")
+            // In space: 1 and 2 are one apart by z, 3 and 4 two by y.
+            .in(World.RICH.and("shelf 2 1", "put 2 1 0 0 3 1", "put 2 2 0 0 2 1", "put 2 3 3 3 0 1", "put 2 4 3 1 0 1"))
+            .run("pairs 2 0 = 2", "found 0 0 = 1", "found 1 0 = 2", "found 0 1 = 1")
+            .run("pairs 2 1 = 2", "found 0 0 = 1", "found 1 0 = 2", "found 0 1 = 1")
+            .run("pairs 2 2 = 2", "found 0 0 = 1", "found 1 0 = 2", "found 0 1 = 1")
+            .run("drop 2 1 = 3", "pairs 2 2 = 2", "found 0 0 = 3", "found 1 0 = 4", "found 0 1 = 4")
             .in(FAR.and("put 1 5 0 0 0 1")).run("pairs 1 2 = 2", "found 0 0 = 5", "found 0 1 = 3298528591875");
         Edge.of("Promise 27", "0 if there are fewer than two (none are FOUND then)")
             .run("put 3 7 1 1 0 9 = 0", "pairs 3 0 = 0", "found 0 0 = -1", "spent 0 = 0", "spent 1 = 0", "spent 2 = 1",

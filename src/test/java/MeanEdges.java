@@ -23,6 +23,8 @@ final class MeanEdges {
                 "mean 4 64 64 1 0 = 64", "mean 4 64 64 1 1 = 4096", "mean 0 16 16 16 1 = 1", "mean 0 16 16 15 1 = 32")
             .taken("mean 4 4 2 1 0 = 12", "mean 4 4 2 1 1 = 24", "mean 4 4 1 2 0 = 12", "mean 4 4 1 2 1 = 12",
                 "mean 4 4 2 3 0 = 6", "mean 4 4 2 3 1 = 12", "mean 4 4 3 2 0 = 6", "mean 4 4 3 2 1 = 18")
+            // A step of the curve from one end of a row to the other is in no window that is less wide.
+            .taken("mean 0 16 2 2 0 = 225", "mean 0 16 2 2 1 = 450", "mean 0 16 3 14 1 = 126", "mean 0 16 3 15 1 = 84")
             // The curve leaves the square and comes again.
             .taken("mean 2 4 2 2 1 = 17", "mean 2 4 4 4 1 = 3", "mean 2 5 3 2 1 = 33", "mean 7 3 2 2 1 = 8",
                 "mean 7 3 3 3 1 = 3", "mean 7 3 2 1 1 = 9", "mean 7 3 1 2 1 = 9")
