@@ -48,14 +48,16 @@ public final class FaceTest {
             names.add(method.substring(method.indexOf(' ') + 1, method.indexOf('(')));
         }
         for (Method m : CurveShelf.class.getDeclaredMethods()) {
-            if (Modifier.isPrivate(m.getModifiers())) {
-                Due.is("private " + m.getName() + " bears a public name", names.contains(m.getName()), false);
-            } else {
+            if (!Modifier.isPrivate(m.getModifiers())) {
                 Due.is(told(m) + " is due", due.remove(told(m)), true);
                 Due.is(m.getName() + " is public", m.getModifiers(), Modifier.PUBLIC);
             }
         }
         Due.is("missing: " + due, due.size(), 0);
+        privateNames(CurveShelf.class, names);
+        for (Class<?> c : CurveShelf.class.getDeclaredClasses()) {
+            privateNames(c, names);
+        }
         Constructor<?>[] made = CurveShelf.class.getDeclaredConstructors();
         Due.is("one constructor", made.length, 1);
         Due.is("it is public", made[0].getModifiers(), Modifier.PUBLIC);
@@ -65,6 +67,14 @@ public final class FaceTest {
             boolean none = f.getName().equals("NONE");
             Due.is("field " + f.getName() + " is private", Modifier.isPrivate(f.getModifiers()), !none);
             Due.is("NONE is public", Modifier.isPublic(f.getModifiers()), none);
+        }
+    }
+
+    private static void privateNames(Class<?> c, Set<String> names) {
+        for (Method m : c.getDeclaredMethods()) {
+            if (Modifier.isPrivate(m.getModifiers())) {
+                Due.is("private " + m.getName() + " bears a public name", names.contains(m.getName()), false);
+            }
         }
     }
 
